@@ -3,8 +3,9 @@
  * made by a fixed sequence of numbers, so that they are the same every time.
  */
 public final class ModelTest {
-    private static final int RUNS = 400;
+    private static final int RUNS = 200;
     private static final int CALLS = 512;
+    private static final int MOST_AT_ONCE = 24;
     private static final int MOST_SHOWN = 20;
 
     private static final Due DUE = new Due("ModelTest");
@@ -12,6 +13,7 @@ public final class ModelTest {
     private static long state = 20261115L;
     private static int wrapped = 0;
     private static int run = 0;
+    private static int calls = 0;
     private static WeightedReader x;
     private static Model m;
 
@@ -19,12 +21,12 @@ public final class ModelTest {
         for (run = 0; run < RUNS && DUE.wrong() < MOST_SHOWN; run++) {
             x = new WeightedReader();
             m = new Model();
+            calls = 0;
             if (run % 8 == 0) {
                 startWithManyReadings();
             }
-            for (int calls = 0; calls < CALLS - 30; calls++) {
-                oneCall();
-                wrapped += m.wrapsToZero() ? 1 : 0;
+            while (calls + MOST_AT_ONCE <= CALLS) {
+                oneStep();
             }
         }
         DUE.due("some runs have counts that wrap to 0", wrapped > 0 ? 1 : 0, 1);
@@ -45,13 +47,10 @@ public final class ModelTest {
         }
     }
 
-    /** Some runs like loops and letters of one kind, so that counts grow large. */
-    private static void oneCall() {
+    private static void oneStep() {
         int chance = below(100);
         if (chance < 45) {
             build(run % 4);
-        } else if (chance < 48) {
-            due("define", x.define(), m.define());
         } else if (chance < 60) {
             edit(run % 3);
         } else {
@@ -59,33 +58,45 @@ public final class ModelTest {
         }
     }
 
+    /** Some runs like loops, so that counts grow large. */
     private static void build(int taste) {
         int chance = below(100);
-        int loops = taste == 0 ? 70 : 12;
+        int loops = taste == 0 ? 50 : 15;
         if (chance < loops) {
             int p = cost();
             due("loop(" + p + ")", x.loop(p), m.loop(p));
-        } else if (chance < loops + 8) {
+        } else if (chance < loops + 13) {
             int c = letter();
             int w = cost();
             due("letter(" + c + ", " + w + ")", x.letter(c, w), m.letter(c, w));
-        } else if (chance < loops + 16) {
+        } else if (chance < loops + 24) {
             int w = cost();
             due("any(" + w + ")", x.any(w), m.any(w));
-        } else if (chance < loops + 18) {
+        } else if (chance < loops + 28) {
             due("unit", x.unit(), m.unit());
-        } else if (chance < 99) {
+        } else if (chance < 97) {
             join(taste);
-        } else if (below(4) == 0) {
-            x.discard();
-            m.discard();
-            due("depth", x.depth(), m.depth());
+        } else {
+            finish();
         }
         due("steps", x.steps(), m.steps());
-        if (m.steps() == 20) {
-            due("define", x.define(), m.define());
+        due("depth", x.depth(), m.depth());
+        if (m.steps() == 20 && below(4) == 0) {
+            finish();
+        }
+    }
+
+    /** Joins what is on the stack, if steps are left for it, and puts it to use. */
+    private static void finish() {
+        for (int n = m.depth(); n > 1; n--) {
+            join(1);
+        }
+        int answer = m.define();
+        due("define", x.define(), answer);
+        if (answer != 0) {
             x.discard();
             m.discard();
+            calls++;
         }
     }
 
@@ -114,6 +125,7 @@ public final class ModelTest {
         int i = place();
         int j = below(3) == 0 ? m.length() : place();
         String at = "(" + i + ", " + j + ")";
+        wrapped += m.wrapsToZero() ? 1 : 0;
         switch (below(8)) {
             case 0 -> due("ways" + at, x.ways(i, j), m.ways(i, j));
             case 1 -> due("least" + at, x.least(i, j), m.least(i, j));
@@ -130,6 +142,7 @@ public final class ModelTest {
     }
 
     private static void due(String call, int got, int want) {
+        calls++;
         DUE.due("run " + run + ": " + call, got, want);
     }
 

@@ -16,6 +16,8 @@ public final class QuestionTest {
         coverChoosesTheCheapest();
         coverHasNoEmptyPieces();
         questionsChangeNothing();
+        eachQuestionMayComeFirst();
+        costsInAnyOrder();
         DUE.finish();
     }
 
@@ -261,6 +263,55 @@ public final class QuestionTest {
         }
         DUE.due("9 still drafting", x.depth(), 1);
         DUE.due("15 still as long", x.length(), 3);
+    }
+
+    /** No answer leans on another question having been asked about the same text. */
+    private static void eachQuestionMayComeFirst() {
+        DUE.due("16 first", asking().ways(0, 2), 2);
+        DUE.due("17 first", asking().least(0, 2), 2);
+        DUE.due("18 first", asking().most(0, 2), 9);
+        DUE.due("19 first", asking().windows(), 6);
+        DUE.due("20 first", asking().allWays(), 3 + 2 + 2);
+        DUE.due("21 first", asking().longest(0), 2);
+        DUE.due("22 first", asking().cover(), 2);
+    }
+
+    private static WeightedReader asking() {
+        WeightedReader x = pairsOrLetters();
+        typeAll(x, 0, 1);
+        return x;
+    }
+
+    private static void costsInAnyOrder() {
+        int[][] orders = {{1, 5, 9}, {1, 9, 5}, {5, 1, 9}, {5, 9, 1}, {9, 1, 5}, {9, 5, 1}};
+        for (int[] costs : orders) {
+            WeightedReader x = new WeightedReader();
+            x.any(costs[0]);
+            x.any(costs[1]);
+            x.alt();
+            x.any(costs[2]);
+            x.alt();
+            x.define();
+            x.type(0);
+            DUE.due("17 in any order", x.least(0, 1), 1);
+            DUE.due("18 in any order", x.most(0, 1), 9);
+        }
+        // The three cuts of 101 cost 9 + 6, 4 + 0 + 3 and 8 + 9: they first fall, then rise.
+        WeightedReader y = new WeightedReader();
+        y.any(4);
+        y.loop(0);
+        y.letter(0, 0);
+        y.letter(1, 9);
+        y.alt();
+        y.seq();
+        y.any(3);
+        y.loop(0);
+        y.seq();
+        y.define();
+        typeAll(y, 1, 0, 1);
+        DUE.due("16 cuts", y.ways(0, 3), 3);
+        DUE.due("17 cuts", y.least(0, 3), 4 + 0 + 3);
+        DUE.due("18 cuts", y.most(0, 3), 4 + 4 + 9);
     }
 
     private static void typeAll(WeightedReader x, int... letters) {
