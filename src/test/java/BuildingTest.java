@@ -1,12 +1,5 @@
 /** Promises 1 to 11: a new object, and building an expression on the stack. */
 public final class BuildingTest {
-    private static final int BAD_ARG = -1;
-    private static final int FULL = -2;
-    private static final int BAD_STACK = -3;
-    private static final int NONE = -4;
-    private static final int[] NOT_LETTERS = {-1, 3, Integer.MIN_VALUE, Integer.MAX_VALUE};
-    private static final int[] NOT_COSTS = {-1, 10, Integer.MIN_VALUE, Integer.MAX_VALUE};
-
     private static final Due DUE = new Due("BuildingTest");
 
     public static void main(String[] args) {
@@ -58,11 +51,11 @@ public final class BuildingTest {
                 WeightedReader x = new WeightedReader();
                 DUE.due("2 letter", x.letter(c, w), 1);
                 x.define();
-                typeAll(x, 0, 1, 2);
+                Given.text(x, 0, 1, 2);
                 for (int i = 0; i < 3; i++) {
                     DUE.due("2 ways of letter " + i, x.ways(i, i + 1), i == c ? 1 : 0);
-                    DUE.due("2 least of letter " + i, x.least(i, i + 1), i == c ? w : NONE);
-                    DUE.due("2 most of letter " + i, x.most(i, i + 1), i == c ? w : NONE);
+                    DUE.due("2 least of letter " + i, x.least(i, i + 1), i == c ? w : Code.NONE);
+                    DUE.due("2 most of letter " + i, x.most(i, i + 1), i == c ? w : Code.NONE);
                 }
                 DUE.due("2 ways of nothing", x.ways(c, c), 0);
                 DUE.due("2 windows", x.windows(), 1);
@@ -72,27 +65,27 @@ public final class BuildingTest {
 
     private static void letterRefuses() {
         WeightedReader x = new WeightedReader();
-        for (int bad : NOT_LETTERS) {
-            DUE.due("2 letter(" + bad + ", 0)", x.letter(bad, 0), BAD_ARG);
+        for (int bad : Given.NOT_LETTERS) {
+            DUE.due("2 letter(" + bad + ", 0)", x.letter(bad, 0), Code.BAD_ARG);
         }
-        for (int bad : NOT_COSTS) {
-            DUE.due("2 letter(0, " + bad + ")", x.letter(0, bad), BAD_ARG);
+        for (int bad : Given.NOT_COSTS) {
+            DUE.due("2 letter(0, " + bad + ")", x.letter(0, bad), Code.BAD_ARG);
         }
         DUE.due("2 nothing changed, steps", x.steps(), 0);
         DUE.due("2 nothing changed, depth", x.depth(), 0);
         for (int n = 1; n <= 8; n++) {
             DUE.due("2 letter number " + n, x.letter(n % 3, n), n);
         }
-        DUE.due("2 full stack", x.letter(0, 0), FULL);
-        DUE.due("2 bad letter before full stack", x.letter(3, 0), BAD_ARG);
-        DUE.due("2 bad cost before full stack", x.letter(0, 10), BAD_ARG);
+        DUE.due("2 full stack", x.letter(0, 0), Code.FULL);
+        DUE.due("2 bad letter before full stack", x.letter(3, 0), Code.BAD_ARG);
+        DUE.due("2 bad cost before full stack", x.letter(0, 10), Code.BAD_ARG);
         DUE.due("2 full stack, steps", x.steps(), 8);
         DUE.due("2 full stack, depth", x.depth(), 8);
 
         WeightedReader y = withAllSteps();
-        DUE.due("2 all steps", y.letter(0, 0), FULL);
-        DUE.due("2 bad letter before all steps", y.letter(-1, 0), BAD_ARG);
-        DUE.due("2 bad cost before all steps", y.letter(0, -1), BAD_ARG);
+        DUE.due("2 all steps", y.letter(0, 0), Code.FULL);
+        DUE.due("2 bad letter before all steps", y.letter(-1, 0), Code.BAD_ARG);
+        DUE.due("2 bad cost before all steps", y.letter(0, -1), Code.BAD_ARG);
         DUE.due("2 all steps, depth", y.depth(), 2);
     }
 
@@ -101,7 +94,7 @@ public final class BuildingTest {
             WeightedReader x = new WeightedReader();
             DUE.due("3 any", x.any(w), 1);
             x.define();
-            typeAll(x, 2, 0, 1);
+            Given.text(x, 2, 0, 1);
             for (int i = 0; i < 3; i++) {
                 DUE.due("3 ways", x.ways(i, i + 1), 1);
                 DUE.due("3 least", x.least(i, i + 1), w);
@@ -115,29 +108,29 @@ public final class BuildingTest {
 
     private static void anyRefuses() {
         WeightedReader x = new WeightedReader();
-        for (int bad : NOT_COSTS) {
-            DUE.due("3 any(" + bad + ")", x.any(bad), BAD_ARG);
+        for (int bad : Given.NOT_COSTS) {
+            DUE.due("3 any(" + bad + ")", x.any(bad), Code.BAD_ARG);
         }
         DUE.due("3 nothing changed, steps", x.steps(), 0);
         for (int n = 1; n <= 8; n++) {
             DUE.due("3 any number " + n, x.any(n), n);
         }
-        DUE.due("3 full stack", x.any(0), FULL);
-        DUE.due("3 bad cost before full stack", x.any(10), BAD_ARG);
+        DUE.due("3 full stack", x.any(0), Code.FULL);
+        DUE.due("3 bad cost before full stack", x.any(10), Code.BAD_ARG);
         DUE.due("3 full stack, steps", x.steps(), 8);
 
         WeightedReader y = withAllSteps();
-        DUE.due("3 all steps", y.any(0), FULL);
-        DUE.due("3 bad cost before all steps", y.any(10), BAD_ARG);
+        DUE.due("3 all steps", y.any(0), Code.FULL);
+        DUE.due("3 bad cost before all steps", y.any(10), Code.BAD_ARG);
     }
 
     private static void leavesAreCountedTogether() {
         WeightedReader x = withTenLeaves();
         DUE.due("2 ten leaves, steps", x.steps(), 19);
-        DUE.due("2 an eleventh letter", x.letter(0, 0), FULL);
-        DUE.due("3 an eleventh any", x.any(0), FULL);
-        DUE.due("2 bad letter before ten leaves", x.letter(3, 0), BAD_ARG);
-        DUE.due("3 bad cost before ten leaves", x.any(-1), BAD_ARG);
+        DUE.due("2 an eleventh letter", x.letter(0, 0), Code.FULL);
+        DUE.due("3 an eleventh any", x.any(0), Code.FULL);
+        DUE.due("2 bad letter before ten leaves", x.letter(3, 0), Code.BAD_ARG);
+        DUE.due("3 bad cost before ten leaves", x.any(-1), Code.BAD_ARG);
         DUE.due("4 unit is no leaf", x.unit(), 2);
         DUE.due("2 ten leaves, steps afterwards", x.steps(), 20);
     }
@@ -182,7 +175,7 @@ public final class BuildingTest {
         x.discard();
         x.unit();
         x.define();
-        typeAll(x, 1, 1);
+        Given.text(x, 1, 1);
         DUE.due("4 ways of nothing", x.ways(1, 1), 1);
         DUE.due("4 least of nothing", x.least(2, 2), 0);
         DUE.due("4 most of nothing", x.most(0, 0), 0);
@@ -195,11 +188,11 @@ public final class BuildingTest {
         for (int n = 1; n <= 8; n++) {
             DUE.due("4 unit number " + n, x.unit(), n);
         }
-        DUE.due("4 full stack", x.unit(), FULL);
+        DUE.due("4 full stack", x.unit(), Code.FULL);
         DUE.due("4 full stack, steps", x.steps(), 8);
         DUE.due("4 full stack, depth", x.depth(), 8);
         WeightedReader y = withAllSteps();
-        DUE.due("4 all steps", y.unit(), FULL);
+        DUE.due("4 all steps", y.unit(), Code.FULL);
         DUE.due("4 all steps, steps", y.steps(), 20);
         DUE.due("4 all steps, depth", y.depth(), 2);
     }
@@ -210,7 +203,7 @@ public final class BuildingTest {
         x.letter(1, 5);
         DUE.due("5 seq", x.seq(), 1);
         x.define();
-        typeAll(x, 0, 1, 0);
+        Given.text(x, 0, 1, 0);
         DUE.due("5 ways of 01", x.ways(0, 2), 1);
         DUE.due("5 least of 01", x.least(0, 2), 7);
         DUE.due("5 most of 01", x.most(0, 2), 7);
@@ -225,7 +218,7 @@ public final class BuildingTest {
         y.loop(0);
         y.seq();
         y.define();
-        typeAll(y, 0, 1, 2);
+        Given.text(y, 0, 1, 2);
         DUE.due("5 ways by cuts", y.ways(0, 3), 4);
         DUE.due("5 least by cuts", y.least(0, 3), 3);
         DUE.due("5 most by cuts", y.most(0, 3), 6);
@@ -238,7 +231,7 @@ public final class BuildingTest {
         DUE.due("5 seq over a third", z.seq(), 2);
         z.alt();
         z.define();
-        typeAll(z, 0, 1, 2);
+        Given.text(z, 0, 1, 2);
         DUE.due("5 the third stays below", z.ways(2, 3), 1);
         DUE.due("5 the two on top are joined", z.ways(0, 2), 1);
     }
@@ -260,7 +253,7 @@ public final class BuildingTest {
             y.any(pair[1]);
             y.alt();
             y.define();
-            typeAll(y, 0, 1);
+            Given.text(y, 0, 1);
             DUE.due("6 ways by both", y.ways(0, 1), 2);
             DUE.due("6 least by both", y.least(0, 1), 3);
             DUE.due("6 most by both", y.most(0, 1), 8);
@@ -281,11 +274,11 @@ public final class BuildingTest {
 
     private static void joinsRefuse() {
         WeightedReader x = new WeightedReader();
-        DUE.due("5 seq of none", x.seq(), BAD_STACK);
-        DUE.due("6 alt of none", x.alt(), BAD_STACK);
+        DUE.due("5 seq of none", x.seq(), Code.BAD_STACK);
+        DUE.due("6 alt of none", x.alt(), Code.BAD_STACK);
         x.letter(1, 6);
-        DUE.due("5 seq of one", x.seq(), BAD_STACK);
-        DUE.due("6 alt of one", x.alt(), BAD_STACK);
+        DUE.due("5 seq of one", x.seq(), Code.BAD_STACK);
+        DUE.due("6 alt of one", x.alt(), Code.BAD_STACK);
         DUE.due("5 refused, steps", x.steps(), 1);
         DUE.due("5 refused, depth", x.depth(), 1);
         x.define();
@@ -293,14 +286,14 @@ public final class BuildingTest {
         DUE.due("5 refused, the one is as it was", x.least(0, 1), 6);
 
         WeightedReader y = withAllSteps();
-        DUE.due("5 all steps", y.seq(), FULL);
-        DUE.due("6 all steps", y.alt(), FULL);
+        DUE.due("5 all steps", y.seq(), Code.FULL);
+        DUE.due("6 all steps", y.alt(), Code.FULL);
         DUE.due("5 all steps, depth", y.depth(), 2);
 
         WeightedReader z = withTenLeaves();
         z.loop(0);
-        DUE.due("5 all steps before too few", z.seq(), FULL);
-        DUE.due("6 all steps before too few", z.alt(), FULL);
+        DUE.due("5 all steps before too few", z.seq(), Code.FULL);
+        DUE.due("6 all steps before too few", z.alt(), Code.FULL);
         DUE.due("5 all steps, one left", z.depth(), 1);
     }
 
@@ -310,7 +303,7 @@ public final class BuildingTest {
             x.letter(0, 2);
             DUE.due("7 loop", x.loop(p), 1);
             x.define();
-            typeAll(x, 0, 0, 0, 1);
+            Given.text(x, 0, 0, 0, 1);
             DUE.due("7 ways", x.ways(0, 3), 1);
             DUE.due("7 least", x.least(0, 3), 6 + 3 * p);
             DUE.due("7 most of one piece", x.most(1, 2), 2 + p);
@@ -337,7 +330,7 @@ public final class BuildingTest {
         y.alt();
         y.loop(3);
         y.define();
-        typeAll(y, 0, 1);
+        Given.text(y, 0, 1);
         DUE.due("7 loop of body with unit, nothing", y.ways(0, 0), 1);
         DUE.due("7 loop of body with unit, two", y.ways(0, 2), 1);
         DUE.due("7 loop of body with unit, cost", y.most(0, 2), 8);
@@ -351,7 +344,7 @@ public final class BuildingTest {
         z.alt();
         z.loop(2);
         z.define();
-        typeAll(z, 0, 1, 2);
+        Given.text(z, 0, 1, 2);
         DUE.due("7 pieces, ways", z.ways(0, 3), 3);
         DUE.due("7 pieces, least", z.least(0, 3), 9);
         DUE.due("7 pieces, most", z.most(0, 3), 14);
@@ -362,26 +355,26 @@ public final class BuildingTest {
         DUE.due("7 loop over the top only", w.loop(0), 2);
         w.seq();
         w.define();
-        typeAll(w, 0, 1, 1);
+        Given.text(w, 0, 1, 1);
         DUE.due("7 the one below is not looped", w.ways(0, 3), 1);
         DUE.due("7 the one below is needed", w.ways(1, 3), 0);
     }
 
     private static void loopRefuses() {
         WeightedReader x = new WeightedReader();
-        DUE.due("7 empty stack", x.loop(0), BAD_STACK);
-        for (int bad : NOT_COSTS) {
-            DUE.due("7 bad cost before empty stack", x.loop(bad), BAD_ARG);
+        DUE.due("7 empty stack", x.loop(0), Code.BAD_STACK);
+        for (int bad : Given.NOT_COSTS) {
+            DUE.due("7 bad cost before empty stack", x.loop(bad), Code.BAD_ARG);
         }
         DUE.due("7 refused, steps", x.steps(), 0);
         x.any(1);
-        for (int bad : NOT_COSTS) {
-            DUE.due("7 loop(" + bad + ")", x.loop(bad), BAD_ARG);
+        for (int bad : Given.NOT_COSTS) {
+            DUE.due("7 loop(" + bad + ")", x.loop(bad), Code.BAD_ARG);
         }
         DUE.due("7 refused, still one step", x.steps(), 1);
         WeightedReader y = withAllSteps();
-        DUE.due("7 all steps", y.loop(0), FULL);
-        DUE.due("7 bad cost before all steps", y.loop(10), BAD_ARG);
+        DUE.due("7 all steps", y.loop(0), Code.FULL);
+        DUE.due("7 bad cost before all steps", y.loop(10), Code.BAD_ARG);
         DUE.due("7 all steps, depth", y.depth(), 2);
     }
 
@@ -436,7 +429,7 @@ public final class BuildingTest {
         DUE.due("10 depth", x.depth(), 0);
         DUE.due("10 the text stays", x.length(), 1);
         DUE.due("10 the expression in use stays", x.least(0, 1), 4);
-        DUE.due("10 nothing to define", x.define(), BAD_STACK);
+        DUE.due("10 nothing to define", x.define(), Code.BAD_STACK);
         DUE.due("10 first afterwards", x.unit(), 1);
         x.discard();
         x.discard();
@@ -448,10 +441,10 @@ public final class BuildingTest {
 
     private static void defineTakesExactlyOne() {
         WeightedReader x = new WeightedReader();
-        DUE.due("11 of none", x.define(), BAD_STACK);
+        DUE.due("11 of none", x.define(), Code.BAD_STACK);
         x.any(3);
         x.any(5);
-        DUE.due("11 of two", x.define(), BAD_STACK);
+        DUE.due("11 of two", x.define(), Code.BAD_STACK);
         DUE.due("11 refused, steps", x.steps(), 2);
         DUE.due("11 refused, depth", x.depth(), 2);
         DUE.due("11 refused, unit is still in use", x.ways(0, 0), 1);
@@ -461,7 +454,7 @@ public final class BuildingTest {
         DUE.due("11 depth", x.depth(), 0);
         x.type(2);
         DUE.due("11 in use", x.most(0, 1), 5);
-        DUE.due("11 again, of none", x.define(), BAD_STACK);
+        DUE.due("11 again, of none", x.define(), Code.BAD_STACK);
         DUE.due("11 still in use", x.least(0, 1), 3);
 
         WeightedReader y = withTenLeaves();
@@ -478,7 +471,7 @@ public final class BuildingTest {
 
     private static void defineKeepsTheText() {
         WeightedReader x = new WeightedReader();
-        typeAll(x, 2, 1, 0);
+        Given.text(x, 2, 1, 0);
         x.letter(1, 1);
         x.define();
         DUE.due("11 length stays", x.length(), 3);
@@ -492,7 +485,7 @@ public final class BuildingTest {
         x.letter(1, 1);
         x.seq();
         x.define();
-        typeAll(x, 0, 1);
+        Given.text(x, 0, 1);
         x.letter(2, 9);
         x.unit();
         x.alt();
@@ -501,12 +494,6 @@ public final class BuildingTest {
         DUE.due("11 in use while drafting, least", x.least(0, 2), 2);
         DUE.due("11 in use while drafting, windows", x.windows(), 1);
         DUE.due("8 questions do not count", x.steps(), 4);
-    }
-
-    private static void typeAll(WeightedReader x, int... letters) {
-        for (int c : letters) {
-            x.type(c);
-        }
     }
 
     /** 20 steps, two expressions on the stack, and only three calls of letter and any. */

@@ -13,20 +13,19 @@ public final class ModelTest {
     private static long state = 20261115L;
     private static int wrapped = 0;
     private static int run = 0;
-    private static int calls = 0;
-    private static WeightedReader x;
-    private static Model m;
+    private static Both both;
 
     public static void main(String[] args) {
         for (run = 0; run < RUNS && DUE.wrong() < MOST_SHOWN; run++) {
-            x = new WeightedReader();
-            m = new Model();
-            calls = 0;
+            both = new Both(DUE, "run " + run);
             if (run % 8 == 0) {
                 startWithManyReadings();
             }
-            while (calls + MOST_AT_ONCE <= CALLS) {
+            while (both.calls() + MOST_AT_ONCE <= CALLS) {
                 oneStep();
+            }
+            while (both.calls() < CALLS) {
+                ask();
             }
         }
         DUE.due("some runs have counts that wrap to 0", wrapped > 0 ? 1 : 0, 1);
@@ -35,15 +34,15 @@ public final class ModelTest {
 
     /** 2^36 readings of the whole text: chance alone hardly ever leads to a count of 0. */
     private static void startWithManyReadings() {
-        due("any(1)", x.any(1), m.any(1));
-        due("any(4)", x.any(4), m.any(4));
-        due("alt", x.alt(), m.alt());
+        both.any(1);
+        both.any(4);
+        both.alt();
         for (int n = 0; n < 16; n++) {
-            due("loop(" + n % 3 + ")", x.loop(n % 3), m.loop(n % 3));
+            both.loop(n % 3);
         }
-        due("define", x.define(), m.define());
+        both.define();
         for (int n = 0; n < 8; n++) {
-            due("type(" + n % 3 + ")", x.type(n % 3), m.type(n % 3));
+            both.type(n % 3);
         }
     }
 
@@ -63,48 +62,39 @@ public final class ModelTest {
         int chance = below(100);
         int loops = taste == 0 ? 50 : 15;
         if (chance < loops) {
-            int p = cost();
-            due("loop(" + p + ")", x.loop(p), m.loop(p));
+            both.loop(cost());
         } else if (chance < loops + 13) {
-            int c = letter();
-            int w = cost();
-            due("letter(" + c + ", " + w + ")", x.letter(c, w), m.letter(c, w));
+            both.letter(letter(), cost());
         } else if (chance < loops + 24) {
-            int w = cost();
-            due("any(" + w + ")", x.any(w), m.any(w));
+            both.any(cost());
         } else if (chance < loops + 28) {
-            due("unit", x.unit(), m.unit());
+            both.unit();
         } else if (chance < 97) {
             join(taste);
         } else {
             finish();
         }
-        due("steps", x.steps(), m.steps());
-        due("depth", x.depth(), m.depth());
-        if (m.steps() == 20 && below(4) == 0) {
+        both.depth();
+        if (both.steps() == 20 && below(4) == 0) {
             finish();
         }
     }
 
     /** Joins what is on the stack, if steps are left for it, and puts it to use. */
     private static void finish() {
-        for (int n = m.depth(); n > 1; n--) {
+        for (int n = both.model().depth(); n > 1; n--) {
             join(1);
         }
-        int answer = m.define();
-        due("define", x.define(), answer);
-        if (answer != 0) {
-            x.discard();
-            m.discard();
-            calls++;
+        if (both.define() != 0) {
+            both.discard();
         }
     }
 
     private static void join(int taste) {
         if (taste == 0 || below(2) == 0) {
-            due("alt", x.alt(), m.alt());
+            both.alt();
         } else {
-            due("seq", x.seq(), m.seq());
+            both.seq();
         }
     }
 
@@ -112,38 +102,29 @@ public final class ModelTest {
         int chance = below(10);
         int c = taste == 0 ? 1 : letter();
         if (chance < 6) {
-            due("type(" + c + ")", x.type(c), m.type(c));
+            both.type(c);
         } else if (chance < 9) {
-            int i = place();
-            due("put(" + i + ", " + c + ")", x.put(i, c), m.put(i, c));
+            both.put(place(), c);
         } else {
-            due("shift", x.shift(), m.shift());
+            both.shift();
         }
     }
 
     private static void ask() {
         int i = place();
-        int j = below(3) == 0 ? m.length() : place();
-        String at = "(" + i + ", " + j + ")";
-        wrapped += m.wrapsToZero() ? 1 : 0;
-        switch (below(8)) {
-            case 0 -> due("ways" + at, x.ways(i, j), m.ways(i, j));
-            case 1 -> due("least" + at, x.least(i, j), m.least(i, j));
-            case 2 -> due("most" + at, x.most(i, j), m.most(i, j));
-            case 3 -> due("windows", x.windows(), m.windows());
-            case 4 -> due("allWays", x.allWays(), m.allWays());
-            case 5 -> due("longest(" + i + ")", x.longest(i), m.longest(i));
-            case 6 -> due("cover", x.cover(), m.cover());
-            default -> {
-                due("length", x.length(), m.length());
-                due("depth", x.depth(), m.depth());
-            }
+        int j = below(3) == 0 ? both.model().length() : place();
+        wrapped += both.model().wrapsToZero() ? 1 : 0;
+        switch (below(9)) {
+            case 0 -> both.ways(i, j);
+            case 1 -> both.least(i, j);
+            case 2 -> both.most(i, j);
+            case 3 -> both.windows();
+            case 4 -> both.allWays();
+            case 5 -> both.longest(i);
+            case 6 -> both.cover();
+            case 7 -> both.length();
+            default -> both.depth();
         }
-    }
-
-    private static void due(String call, int got, int want) {
-        calls++;
-        DUE.due("run " + run + ": " + call, got, want);
     }
 
     private static int letter() {
@@ -155,7 +136,10 @@ public final class ModelTest {
     }
 
     private static int place() {
-        return below(40) == 0 ? wild() : below(m.length() + 2) - (below(10) == 0 ? 1 : 0);
+        if (below(40) == 0) {
+            return wild();
+        }
+        return below(both.model().length() + 2) - (below(10) == 0 ? 1 : 0);
     }
 
     private static int wild() {

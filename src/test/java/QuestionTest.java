@@ -1,8 +1,5 @@
 /** Promises 16 to 22: the questions about the readings. */
 public final class QuestionTest {
-    private static final int BAD_ARG = -1;
-    private static final int NONE = -4;
-
     private static final Due DUE = new Due("QuestionTest");
 
     public static void main(String[] args) {
@@ -38,7 +35,7 @@ public final class QuestionTest {
 
     private static void ordinaryWindows() {
         WeightedReader x = pairsOrLetters();
-        typeAll(x, 0, 1, 2, 0, 1, 0, 1);
+        Given.text(x, 0, 1, 2, 0, 1, 0, 1);
         DUE.due("16 one pair", x.ways(0, 2), 2);
         DUE.due("17 one pair", x.least(0, 2), 2);
         DUE.due("18 one pair", x.most(0, 2), 9);
@@ -48,8 +45,8 @@ public final class QuestionTest {
         DUE.due("16 across", x.ways(4, 6), 1);
         DUE.due("17 across", x.least(4, 6), 9);
         DUE.due("16 with a 2", x.ways(0, 3), 0);
-        DUE.due("17 with a 2", x.least(0, 3), NONE);
-        DUE.due("18 with a 2", x.most(0, 3), NONE);
+        DUE.due("17 with a 2", x.least(0, 3), Code.NONE);
+        DUE.due("18 with a 2", x.most(0, 3), Code.NONE);
         DUE.due("17 nothing", x.least(7, 7), 0);
         DUE.due("18 nothing", x.most(2, 2), 0);
         // 8 empty windows, 3 within places 0 to 1 and 10 within places 3 to 6.
@@ -66,7 +63,7 @@ public final class QuestionTest {
 
     private static void notWindows() {
         WeightedReader x = pairsOrLetters();
-        typeAll(x, 0, 1, 0);
+        Given.text(x, 0, 1, 0);
         int min = Integer.MIN_VALUE;
         int max = Integer.MAX_VALUE;
         int[][] bad = {{-1, 0}, {-1, -1}, {1, 0}, {3, 2}, {0, 4}, {3, 4}, {4, 4}, {0, 8}, {0, 9},
@@ -74,8 +71,8 @@ public final class QuestionTest {
         for (int[] w : bad) {
             String at = "(" + w[0] + ", " + w[1] + ")";
             DUE.due("16 ways" + at, x.ways(w[0], w[1]), 0);
-            DUE.due("17 least" + at, x.least(w[0], w[1]), BAD_ARG);
-            DUE.due("18 most" + at, x.most(w[0], w[1]), BAD_ARG);
+            DUE.due("17 least" + at, x.least(w[0], w[1]), Code.BAD_ARG);
+            DUE.due("18 most" + at, x.most(w[0], w[1]), Code.BAD_ARG);
         }
         DUE.due("16 the last window", x.ways(3, 3), 1);
         DUE.due("16 the whole text", x.ways(0, 3), 2);
@@ -94,7 +91,7 @@ public final class QuestionTest {
             x.loop(0);
         }
         x.define();
-        typeAll(x, 0, 1, 2, 0, 1, 2, 0, 1);
+        Given.text(x, 0, 1, 2, 0, 1, 2, 0, 1);
         DUE.due("16 wrapped to 0", x.ways(0, 8), 0);
         DUE.due("16 wrapped below 0", x.ways(1, 8), Integer.MIN_VALUE);
         DUE.due("16 not wrapped", x.ways(1, 7), 1 << 26);
@@ -125,7 +122,7 @@ public final class QuestionTest {
         x.unit();
         x.alt();
         x.define();
-        typeAll(x, 0, 0, 0, 0, 0, 0, 0, 0);
+        Given.text(x, 0, 0, 0, 0, 0, 0, 0, 0);
         DUE.due("16 operand, 8 letters", x.ways(0, 8), 0);
         DUE.due("16 operand, 7 letters", x.ways(0, 7), 0);
         DUE.due("16 operand, 6 letters", x.ways(0, 6), 1 << 27);
@@ -144,11 +141,11 @@ public final class QuestionTest {
         x.define();
         DUE.due("19 empty text", x.windows(), 0);
         DUE.due("20 empty text", x.allWays(), 0);
-        DUE.due("17 empty text", x.least(0, 0), NONE);
-        DUE.due("18 empty text", x.most(0, 0), NONE);
-        DUE.due("21 empty text", x.longest(0), NONE);
+        DUE.due("17 empty text", x.least(0, 0), Code.NONE);
+        DUE.due("18 empty text", x.most(0, 0), Code.NONE);
+        DUE.due("21 empty text", x.longest(0), Code.NONE);
         DUE.due("22 empty text", x.cover(), 0);
-        typeAll(x, 0, 1, 0);
+        Given.text(x, 0, 1, 0);
         DUE.due("19 no such letter", x.windows(), 0);
         DUE.due("20 no such letter", x.allWays(), 0);
         DUE.due("22 no such letter", x.cover(), 36);
@@ -162,11 +159,11 @@ public final class QuestionTest {
         x.letter(0, 1);
         x.alt();
         x.define();
-        typeAll(x, 0, 0, 1);
+        Given.text(x, 0, 0, 1);
         DUE.due("21 one letter", x.longest(0), 1);
         DUE.due("21 the longer of two", x.longest(1), 3);
-        DUE.due("21 none from here", x.longest(2), NONE);
-        DUE.due("21 none at the end", x.longest(3), NONE);
+        DUE.due("21 none from here", x.longest(2), Code.NONE);
+        DUE.due("21 none at the end", x.longest(3), Code.NONE);
         x.unit();
         x.define();
         DUE.due("21 only the empty window", x.longest(1), 1);
@@ -175,10 +172,10 @@ public final class QuestionTest {
 
     private static void longestRefuses() {
         WeightedReader x = pairsOrLetters();
-        typeAll(x, 0, 1);
+        Given.text(x, 0, 1);
         int[] bad = {-1, 3, 8, 9, Integer.MIN_VALUE, Integer.MAX_VALUE};
         for (int i : bad) {
-            DUE.due("21 longest(" + i + ")", x.longest(i), BAD_ARG);
+            DUE.due("21 longest(" + i + ")", x.longest(i), Code.BAD_ARG);
         }
         DUE.due("21 longest(2)", x.longest(2), 2);
     }
@@ -192,7 +189,7 @@ public final class QuestionTest {
         x.seq();
         x.seq();
         x.define();
-        typeAll(x, 0, 0, 0, 0);
+        Given.text(x, 0, 0, 0, 0);
         DUE.due("22 three of four", x.cover(), 27 + 12);
         x.put(1, 1);
         DUE.due("22 none of four", x.cover(), 48);
@@ -202,7 +199,7 @@ public final class QuestionTest {
         y.any(9);
         y.loop(9);
         y.define();
-        typeAll(y, 0, 1);
+        Given.text(y, 0, 1);
         DUE.due("22 dear readings", y.cover(), 24);
 
         // The cheapest reading of a piece counts, not the dearest.
@@ -211,7 +208,7 @@ public final class QuestionTest {
         z.any(2);
         z.alt();
         z.define();
-        typeAll(z, 0, 1, 2);
+        Given.text(z, 0, 1, 2);
         DUE.due("22 the cheapest reading", z.cover(), 6);
 
         // The longest piece first is not always best: 01 costs 18, 0 costs 1 and 12 costs 0.
@@ -226,7 +223,7 @@ public final class QuestionTest {
         w.letter(0, 1);
         w.alt();
         w.define();
-        typeAll(w, 0, 1, 2);
+        Given.text(w, 0, 1, 2);
         DUE.due("22 not the longest first", w.cover(), 1);
         w.put(2, 0);
         DUE.due("22 a letter passed over", w.cover(), 1 + 12 + 1);
@@ -238,19 +235,19 @@ public final class QuestionTest {
         v.any(9);
         v.loop(3);
         v.define();
-        typeAll(v, 0, 0, 0, 0, 0, 0, 0, 0);
+        Given.text(v, 0, 0, 0, 0, 0, 0, 0, 0);
         DUE.due("22 either way", v.cover(), 96);
     }
 
     private static void coverHasNoEmptyPieces() {
         WeightedReader x = new WeightedReader();
-        typeAll(x, 0, 1, 2, 0, 1, 2, 0, 1);
+        Given.text(x, 0, 1, 2, 0, 1, 2, 0, 1);
         DUE.due("22 unit covers nothing", x.cover(), 96);
     }
 
     private static void questionsChangeNothing() {
         WeightedReader x = pairsOrLetters();
-        typeAll(x, 0, 1, 0);
+        Given.text(x, 0, 1, 0);
         x.any(1);
         for (int n = 0; n < 3; n++) {
             DUE.due("16 again", x.ways(0, 3), 2);
@@ -278,7 +275,7 @@ public final class QuestionTest {
 
     private static WeightedReader asking() {
         WeightedReader x = pairsOrLetters();
-        typeAll(x, 0, 1);
+        Given.text(x, 0, 1);
         return x;
     }
 
@@ -308,15 +305,9 @@ public final class QuestionTest {
         y.loop(0);
         y.seq();
         y.define();
-        typeAll(y, 1, 0, 1);
+        Given.text(y, 1, 0, 1);
         DUE.due("16 cuts", y.ways(0, 3), 3);
         DUE.due("17 cuts", y.least(0, 3), 4 + 0 + 3);
         DUE.due("18 cuts", y.most(0, 3), 4 + 4 + 9);
-    }
-
-    private static void typeAll(WeightedReader x, int... letters) {
-        for (int c : letters) {
-            x.type(c);
-        }
     }
 }
