@@ -1,4 +1,4 @@
-/** A WeightedReader and a Model that are called in step, each answer of the one due by the other. */
+/** A WeightedReader and a Model, called in step: what the Model answers is due of the other. */
 final class Both {
     private final WeightedReader x = new WeightedReader();
     private final Model m = new Model();

@@ -68,7 +68,8 @@ public final class BuildingBoundaryTest {
     private static void letterArguments() {
         DUE.sentence("2 letter: c not 0 to 2 answers BAD_ARG", () -> {
             for (int c : Given.NOT_LETTERS) {
-                refused("letter(" + c + ", 4)", Given::emptyStack, x -> x.letter(c, 4), Code.BAD_ARG);
+                refused("letter(" + c + ", 4)", Given::emptyStack, x -> x.letter(c, 4),
+                    Code.BAD_ARG);
             }
         });
         DUE.sentence("2 letter: c at the ends of 0 to 2 is accepted", () -> {
@@ -83,7 +84,8 @@ public final class BuildingBoundaryTest {
         });
         DUE.sentence("2 letter: w not 0 to 9 answers BAD_ARG", () -> {
             for (int w : Given.NOT_COSTS) {
-                refused("letter(1, " + w + ")", Given::emptyStack, x -> x.letter(1, w), Code.BAD_ARG);
+                refused("letter(1, " + w + ")", Given::emptyStack, x -> x.letter(1, w),
+                    Code.BAD_ARG);
             }
         });
         DUE.sentence("2 letter: w at the ends of 0 to 9 is accepted", () -> {
@@ -226,6 +228,8 @@ public final class BuildingBoundaryTest {
 
     private static void leavesSinceTheStackWasEmptied(
             String name, ToIntFunction<WeightedReader> leaf) {
+        DUE.sentence(name + ": 10 calls are accepted by a new object", () ->
+            tenMoreAndNoEleventh(new WeightedReader(), leaf));
         DUE.sentence(name + ": 10 calls are counted anew after define", () -> {
             WeightedReader x = Given.leaves(10, 1);
             DUE.due("define", x.define(), 0);
@@ -410,8 +414,15 @@ public final class BuildingBoundaryTest {
     // ---- promises 8 and 9
 
     private static void stepsRange() {
-        DUE.sentence("8 steps: 0 since the object was made", () ->
-            DUE.due("steps", new WeightedReader().steps(), 0));
+        DUE.sentence("8 steps: 0 when the object was made, and up to 20 since", () -> {
+            WeightedReader x = new WeightedReader();
+            DUE.due("steps", x.steps(), 0);
+            x.unit();
+            for (int n = 0; n < 25; n++) {
+                x.loop(0);
+            }
+            DUE.due("steps", x.steps(), 20);
+        });
         DUE.sentence("8 steps: 0 to 20, every accepted call one more", () -> {
             WeightedReader x = Given.emptyStack();
             x.unit();
@@ -439,7 +450,7 @@ public final class BuildingBoundaryTest {
             DUE.due("define", x.define(), Code.BAD_STACK);
             DUE.due("steps", x.steps(), 20);
         });
-        DUE.sentence("8 steps: accepted calls of letter, any, unit, seq, alt and loop alone", () -> {
+        DUE.sentence("8 steps: no call but letter, any, unit, seq, alt and loop counts", () -> {
             WeightedReader x = Given.draft(5, 2);
             x.type(0);
             x.put(0, 1);

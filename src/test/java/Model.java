@@ -13,11 +13,6 @@ import java.util.TreeMap;
  * and every cut into pieces is gone through one by one.
  */
 final class Model {
-    private static final int BAD_ARG = -1;
-    private static final int FULL = -2;
-    private static final int BAD_STACK = -3;
-    private static final int NONE = -4;
-
     private abstract static class Expression {
         private final Map<String, TreeMap<Integer, BigInteger>> known = new HashMap<>();
 
@@ -124,7 +119,7 @@ final class Model {
     private String text = "";
 
     int letter(int c, int w) {
-        return c < 0 || c > 2 ? BAD_ARG : leaf(String.valueOf(c), w);
+        return c < 0 || c > 2 ? Code.BAD_ARG : leaf(String.valueOf(c), w);
     }
 
     int any(int w) {
@@ -133,7 +128,7 @@ final class Model {
 
     int unit() {
         if (steps == 20 || stack.size() == 8) {
-            return FULL;
+            return Code.FULL;
         }
         return pushed(new Unit());
     }
@@ -148,13 +143,13 @@ final class Model {
 
     int loop(int p) {
         if (p < 0 || p > 9) {
-            return BAD_ARG;
+            return Code.BAD_ARG;
         }
         if (steps == 20) {
-            return FULL;
+            return Code.FULL;
         }
         if (stack.isEmpty()) {
-            return BAD_STACK;
+            return Code.BAD_STACK;
         }
         return pushed(new Loop(p, stack.pop()));
     }
@@ -175,7 +170,7 @@ final class Model {
 
     int define() {
         if (stack.size() != 1) {
-            return BAD_STACK;
+            return Code.BAD_STACK;
         }
         used = stack.peek();
         discard();
@@ -184,10 +179,10 @@ final class Model {
 
     int type(int c) {
         if (c < 0 || c > 2) {
-            return BAD_ARG;
+            return Code.BAD_ARG;
         }
         if (text.length() == 8) {
-            return FULL;
+            return Code.FULL;
         }
         text += c;
         return text.length();
@@ -195,7 +190,7 @@ final class Model {
 
     int put(int i, int c) {
         if (i < 0 || i >= text.length() || c < 0 || c > 2) {
-            return BAD_ARG;
+            return Code.BAD_ARG;
         }
         int before = text.charAt(i) - '0';
         text = text.substring(0, i) + c + text.substring(i + 1);
@@ -204,7 +199,7 @@ final class Model {
 
     int shift() {
         if (text.isEmpty()) {
-            return NONE;
+            return Code.NONE;
         }
         int first = text.charAt(0) - '0';
         text = text.substring(1);
@@ -221,16 +216,16 @@ final class Model {
 
     int least(int i, int j) {
         if (!isWindow(i, j)) {
-            return BAD_ARG;
+            return Code.BAD_ARG;
         }
-        return isRead(i, j) ? window(i, j).firstKey() : NONE;
+        return isRead(i, j) ? window(i, j).firstKey() : Code.NONE;
     }
 
     int most(int i, int j) {
         if (!isWindow(i, j)) {
-            return BAD_ARG;
+            return Code.BAD_ARG;
         }
-        return isRead(i, j) ? window(i, j).lastKey() : NONE;
+        return isRead(i, j) ? window(i, j).lastKey() : Code.NONE;
     }
 
     int windows() {
@@ -255,9 +250,9 @@ final class Model {
 
     int longest(int i) {
         if (i < 0 || i > text.length()) {
-            return BAD_ARG;
+            return Code.BAD_ARG;
         }
-        int found = NONE;
+        int found = Code.NONE;
         for (int j = i; j <= text.length(); j++) {
             found = isRead(i, j) ? j : found;
         }
@@ -299,10 +294,10 @@ final class Model {
 
     private int leaf(String letters, int w) {
         if (w < 0 || w > 9) {
-            return BAD_ARG;
+            return Code.BAD_ARG;
         }
         if (steps == 20 || stack.size() == 8 || leaves == 10) {
-            return FULL;
+            return Code.FULL;
         }
         leaves++;
         return pushed(new One(letters, w));
@@ -310,10 +305,10 @@ final class Model {
 
     private int join(boolean isAlt) {
         if (steps == 20) {
-            return FULL;
+            return Code.FULL;
         }
         if (stack.size() < 2) {
-            return BAD_STACK;
+            return Code.BAD_STACK;
         }
         Expression y = stack.pop();
         Expression x = stack.pop();

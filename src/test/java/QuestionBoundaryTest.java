@@ -221,7 +221,7 @@ public final class QuestionBoundaryTest {
     // ---- promises 19 and 20
 
     private static void windowsBoundaries() {
-        DUE.sentence("19 windows: empty ones too, from 1 of the empty text to 45 of 8 letters", () -> {
+        DUE.sentence("19 windows: empty ones too, 1 of the empty text to 45 of 8 letters", () -> {
             for (int n = 0; n <= 8; n++) {
                 DUE.due("of " + n, Given.textOf(n).windows(), (n + 1) * (n + 2) / 2);
             }

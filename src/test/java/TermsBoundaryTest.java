@@ -1,7 +1,7 @@
 import java.util.List;
 import java.util.function.Consumer;
 
-/** The document's head and Terms: a test of its own for each sentence that names a boundary case. */
+/** The head and the Terms: a test of its own for each sentence that names a boundary case. */
 public final class TermsBoundaryTest {
     private static final Due DUE = new Due("TermsBoundaryTest");
 
@@ -224,6 +224,27 @@ public final class TermsBoundaryTest {
                 reads(x, 0, 1, 2, 0, 9);
             }
         });
+        DUE.sentence("alt: the least and the greatest cost of three, wherever they stand", () -> {
+            int[][] orders = {{0, 5, 9}, {0, 9, 5}, {5, 0, 9}, {5, 9, 0}, {9, 0, 5}, {9, 5, 0}};
+            for (int[] costs : orders) {
+                WeightedReader x = using(x0 -> {
+                    x0.any(costs[0]);
+                    x0.any(costs[1]);
+                    x0.alt();
+                    x0.any(costs[2]);
+                    x0.alt();
+                }, 0);
+                reads(x, 0, 1, 3, 0, 9);
+                WeightedReader y = using(y0 -> {
+                    y0.any(costs[0]);
+                    y0.any(costs[1]);
+                    y0.any(costs[2]);
+                    y0.alt();
+                    y0.alt();
+                }, 0);
+                reads(y, 0, 1, 3, 0, 9);
+            }
+        });
     }
 
     private static void loopOfTheEmptyWord() {
@@ -377,10 +398,19 @@ public final class TermsBoundaryTest {
             reads(x, 0, 8, 1 << 7, 8, 24 + 8);
             reads(x, 0, 0, 2, 0, 0);
         });
-        DUE.sentence("numbers: 0 modulo 2^32 in a part of seq is still a reading", () -> {
+        DUE.sentence("numbers: 0 modulo 2^32 in the first part of seq is still a reading", () -> {
             WeightedReader x = using(x0 -> {
                 Given.pushLoopsOverLeaves(x0, 4, 8);
                 x0.any(9);
+                x0.seq();
+            }, 0, 0, 0, 0, 0, 0, 0, 0);
+            reads(x, 0, 8, 0, 7 + 9, 7 + 9);
+            reads(x, 0, 7, 1 << 27, 6 + 9, 6 + 9);
+        });
+        DUE.sentence("numbers: 0 modulo 2^32 in the rest of seq is still a reading", () -> {
+            WeightedReader x = using(x0 -> {
+                x0.any(9);
+                Given.pushLoopsOverLeaves(x0, 4, 8);
                 x0.seq();
             }, 0, 0, 0, 0, 0, 0, 0, 0);
             reads(x, 0, 8, 0, 7 + 9, 7 + 9);
@@ -391,6 +421,13 @@ public final class TermsBoundaryTest {
             WeightedReader x = looped(x0 -> Given.pushLoopsOverLeaves(x0, 4, 8),
                 0, 0, 0, 0, 0, 0, 0, 0);
             reads(x, 0, 8, (int) (65536L * 4782969L), 8 + 9, 8 + 9 * 8);
+        });
+        DUE.sentence("numbers: 0 modulo 2^32 behind the first piece of loop is a reading", () -> {
+            // 8 loops: 7 letters have 2^32 readings, and the dearest of 8 leaves 7 to the rest.
+            WeightedReader x = looped(x0 -> Given.pushLoopsOverLeaves(x0, 4, 7),
+                0, 0, 0, 0, 0, 0, 0, 0);
+            reads(x, 0, 7, 0, 7 + 9, 7 + 9 * 7);
+            reads(x, 0, 8, 0, 8 + 9, 8 + 9 * 8);
         });
     }
 

@@ -102,6 +102,20 @@ public final class TextBoundaryTest {
                 onePlaceIsPut(n, n - 1);
             }
         });
+        DUE.sentence("13 put: the windows at the ends show the letter as it is now", () -> {
+            WeightedReader x = new WeightedReader();
+            x.letter(2, 4);
+            x.define();
+            Given.text(x, 0, 0, 0, 0, 0, 0, 0, 0);
+            for (int place : new int[] {0, 7}) {
+                DUE.due("before", x.least(place, place + 1), Code.NONE);
+                x.put(place, 2);
+                DUE.due("put", x.least(place, place + 1), 4);
+                DUE.due("windows", x.windows(), 1);
+                x.put(place, 1);
+                DUE.due("put back", x.least(place, place + 1), Code.NONE);
+            }
+        });
     }
 
     private static void putRefused(int n, int i, int c) {
